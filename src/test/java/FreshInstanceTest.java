@@ -27,7 +27,8 @@ public final class FreshInstanceTest {
     Check.due("value() after feed(49)", 0x83DCEFB7, x.value());
   }
 
-  // value() alone can't tell a register of -1 from one that is complemented twice.
+  // A fresh value() of 0 could also come from a register of 0 that isn't complemented;
+  // the first byte fed tells the two apart.
   private static void registerStartsAtAllOnes() {
     CrcRewind x = new CrcRewind();
     x.feed(0);
