@@ -56,16 +56,7 @@ public final class ValueTest {
   }
 
   private static void changesNothing() {
-    CrcRewind asked = new CrcRewind();
-    Model model = new Model();
-    for (int i = 0; i < 40; i++) {
-      Check.due("feed(" + i + ")", model.feed(i), asked.feed(i));
-      askOften(asked, model);
-    }
-    for (int i = 0; i < 20; i++) {
-      Check.due("unfeed()", model.unfeed(), asked.unfeed());
-      askOften(asked, model);
-    }
+    Model.walkUpAndDown(ValueTest::askOften);
   }
 
   private static void askOften(CrcRewind asked, Model model) {
