@@ -1,72 +1,104 @@
-/** Promise 1: a fresh instance. */
+/** Promise 1: a fresh instance. Above each test stands the sentence that it is for. */
 public final class FreshInstanceTest {
   public static void main(String[] args) {
-    freshAnswers();
-    freshUnfeedChangesNothing();
-    registerStartsAtAllOnes();
+    alwaysSucceeds();
+    registerIsAllOnes();
+    nothingIsRemembered();
+    valueIsZero();
+    depthIsZero();
+    unfeedIsRefusedAndChangesNothing();
     instancesShareNothing();
     laterInstanceIsFresh();
     Check.end();
   }
 
-  private static void freshAnswers() {
-    Check.due("fresh value()", 0, new CrcRewind().value());
-    Check.due("fresh depth()", 0, new CrcRewind().depth());
-    Check.due("fresh unfeed()", -1, new CrcRewind().unfeed());
-    Check.due("fresh feed(0)", 1, new CrcRewind().feed(0));
-  }
-
-  private static void freshUnfeedChangesNothing() {
-    CrcRewind x = new CrcRewind();
-    for (int i = 0; i < 40; i++) {
-      Check.due("fresh unfeed() no. " + i, -1, x.unfeed());
-      Check.due("value() after it", 0, x.value());
-      Check.due("depth() after it", 0, x.depth());
+  /** "new CrcRewind() always succeeds." */
+  private static void alwaysSucceeds() {
+    CrcRewind[] kept = new CrcRewind[10_000];
+    for (int i = 0; i < kept.length; i++) {
+      kept[i] = new CrcRewind();
+      Check.due("first feed to instance " + i, 1, kept[i].feed(i));
+      Check.due("second feed to instance " + i, 2, kept[i].feed(i / 256));
     }
-    Check.due("feed(49) after fresh unfeeds", 1, x.feed(49));
-    Check.due("value() after feed(49)", 0x83DCEFB7, x.value());
+    for (int i = 0; i < kept.length; i++) {
+      Check.due("first unfeed() of instance " + i, i / 256, kept[i].unfeed());
+      Check.due("second unfeed() of instance " + i, i % 256, kept[i].unfeed());
+    }
   }
 
-  // A fresh value() of 0 could also come from a register of 0 that isn't complemented;
-  // the first byte fed tells the two apart.
-  private static void registerStartsAtAllOnes() {
+  /**
+   * "the register is -1 (all 32 bits set)". A fresh value() of 0 could also come from a
+   * register of 0 that isn't complemented; the first byte fed tells the two apart.
+   */
+  private static void registerIsAllOnes() {
     CrcRewind x = new CrcRewind();
     x.feed(0);
     Check.due("value() after feed(0)", 0xD202EF8D, x.value());
+    CrcRewind y = new CrcRewind();
+    y.feed(255);
+    Check.due("value() after feed(255)", 0xFF000000, y.value());
   }
 
+  /** "nothing is remembered; depth is 0". */
+  private static void nothingIsRemembered() {
+    CrcRewind x = new CrcRewind();
+    x.feed(7);
+    Check.due("unfeed() of the only byte", 7, x.unfeed());
+    Check.due("unfeed() below it", -1, x.unfeed());
+  }
+
+  /** "value() answers 0 (the bitwise complement of -1)". */
+  private static void valueIsZero() {
+    Check.due("fresh value()", 0, new CrcRewind().value());
+  }
+
+  /** "depth() answers 0". */
+  private static void depthIsZero() {
+    Check.due("fresh depth()", 0, new CrcRewind().depth());
+  }
+
+  /** "unfeed() would answer -1 and change nothing." */
+  private static void unfeedIsRefusedAndChangesNothing() {
+    CrcRewind x = new CrcRewind();
+    Check.due("fresh unfeed()", -1, x.unfeed());
+    Check.due("value() after it", 0, x.value());
+    Check.due("depth() after it", 0, x.depth());
+    Check.due("feed(49) after it", 1, x.feed(49));
+    Check.due("value() after feed(49)", 0x83DCEFB7, x.value());
+    Check.due("unfeed() of the 49", 49, x.unfeed());
+    Check.due("unfeed() below the 49", -1, x.unfeed());
+  }
+
+  /** "Separate instances do not share state; what is done to one has no effect on another." */
   private static void instancesShareNothing() {
-    CrcRewind a = new CrcRewind();
-    CrcRewind b = new CrcRewind();
-    Model modelA = new Model();
-    Model modelB = new Model();
+    Pair a = new Pair("a");
+    Pair b = new Pair("b");
+    Pair untouched = new Pair("untouched");
     for (int i = 0; i < 40; i++) {
-      Check.due("a.feed(" + i + ")", modelA.feed(i), a.feed(i));
+      a.feed(i);
       if (i % 3 == 0) {
-        Check.due("b.feed(" + (200 - i) + ")", modelB.feed(200 - i), b.feed(200 - i));
+        b.feed(200 - i);
       }
-      modelA.compareState("a, turn " + i, a);
-      modelB.compareState("b, turn " + i, b);
+      a.sameState();
+      untouched.sameState();
     }
     for (int i = 0; i < 20; i++) {
-      Check.due("a.unfeed()", modelA.unfeed(), a.unfeed());
-      modelA.compareState("a, back " + i, a);
-      modelB.compareState("b, a's back " + i, b);
+      a.unfeed();
+      b.sameState();
+      untouched.sameState();
     }
-    for (int i = 0; i < 20; i++) {
-      Check.due("b.unfeed()", modelB.unfeed(), b.unfeed());
-    }
+    b.sameMemory();
+    untouched.sameMemory();
   }
 
+  /** The same sentence, for an instance that is made when another one is full. */
   private static void laterInstanceIsFresh() {
-    CrcRewind used = new CrcRewind();
-    for (int i = 0; i < 30; i++) {
-      used.feed(i * 7);
-    }
+    Pair used = Pair.atDepth(16);
     CrcRewind later = new CrcRewind();
     Check.due("later value()", 0, later.value());
     Check.due("later depth()", 0, later.depth());
     Check.due("later unfeed()", -1, later.unfeed());
-    Check.due("used depth()", 16, used.depth());
+    used.sameState();
+    used.sameMemory();
   }
 }

@@ -16,54 +16,36 @@ public final class MixedRunsTest {
   /** Every run of so many calls out of three feeds and unfeed, each on a new object. */
   private static void everyShortRun(int start, int calls) {
     for (int run = 0; run < 1 << 2 * calls; run++) {
-      CrcRewind x = new CrcRewind();
-      Model model = new Model();
-      for (int i = 0; i < start; i++) {
-        x.feed(i * 37);
-        model.feed(i * 37);
-      }
+      Pair pair = new Pair("start " + start + ", run " + run);
+      pair.feedNumbered(1, start);
       for (int i = 0; i < calls; i++) {
-        int choice = run >> 2 * i & 3;
-        oneCall("start " + start + ", run " + run + ", call " + i, choice, x, model);
+        oneCall(run >> 2 * i & 3, pair);
       }
-      unfeedAll("start " + start + ", run " + run, x, model);
+      pair.sameMemory();
     }
   }
 
-  private static void oneCall(String where, int choice, CrcRewind x, Model model) {
+  private static void oneCall(int choice, Pair pair) {
     if (choice == UNFEED) {
-      Check.due(where + ": unfeed()", model.unfeed(), x.unfeed());
+      pair.unfeed();
     } else {
-      int b = FED[choice];
-      Check.due(where + ": feed(" + b + ")", model.feed(b), x.feed(b));
+      pair.feed(FED[choice]);
     }
-    model.compareState(where, x);
-  }
-
-  private static void unfeedAll(String where, CrcRewind x, Model model) {
-    for (int i = 0; i < 17; i++) {
-      Check.due(where + ": closing unfeed() no. " + i, model.unfeed(), x.unfeed());
-    }
-    model.compareState(where + ", un-fed", x);
   }
 
   /** A fixed run in which about weight of ten calls are feeds; the same at every start. */
   private static void longRun(int weight, int calls) {
-    CrcRewind x = new CrcRewind();
-    Model model = new Model();
+    Pair pair = new Pair("weight " + weight);
     int state = 88172645 + weight;
     for (int i = 0; i < calls; i++) {
       state = scrambled(state);
-      String where = "weight " + weight + ", call " + i;
       if (Integer.remainderUnsigned(state, 10) < weight) {
-        int b = scrambled(state ^ 0x5DEECE66);
-        Check.due(where + ": feed(" + b + ")", model.feed(b), x.feed(b));
+        pair.feed(scrambled(state ^ 0x5DEECE66));
       } else {
-        Check.due(where + ": unfeed()", model.unfeed(), x.unfeed());
+        pair.unfeed();
       }
-      model.compareState(where, x);
     }
-    unfeedAll("weight " + weight, x, model);
+    pair.sameMemory();
   }
 
   private static int scrambled(int state) {

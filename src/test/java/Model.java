@@ -1,4 +1,3 @@
-import java.util.function.BiConsumer;
 import java.util.zip.CRC32;
 
 /**
@@ -36,27 +35,5 @@ final class Model {
 
   int depth() {
     return depth;
-  }
-
-  /** Checks value and depth, and once more, since asking must change nothing. */
-  void compareState(String where, CrcRewind x) {
-    Check.due(where + ": value()", value(), x.value());
-    Check.due(where + ": depth()", depth(), x.depth());
-    Check.due(where + ": value() again", value(), x.value());
-    Check.due(where + ": depth() again", depth(), x.depth());
-  }
-
-  /** Feeds past the limit, then un-feeds past the bottom, and asks after each call. */
-  static void walkUpAndDown(BiConsumer<CrcRewind, Model> ask) {
-    CrcRewind x = new CrcRewind();
-    Model model = new Model();
-    for (int i = 0; i < 40; i++) {
-      Check.due("feed(" + i + ")", model.feed(i), x.feed(i));
-      ask.accept(x, model);
-    }
-    for (int i = 0; i < 20; i++) {
-      Check.due("unfeed() no. " + i, model.unfeed(), x.unfeed());
-      ask.accept(x, model);
-    }
   }
 }
