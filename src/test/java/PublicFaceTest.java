@@ -60,14 +60,21 @@ public final class PublicFaceTest {
     return m.getReturnType().getName() + " " + m.getName() + "(" + parameters + ")";
   }
 
+  /** "None of them are public fields.", of the constants; nor is any other field. */
   private static void fields() {
     for (Field f : CrcRewind.class.getDeclaredFields()) {
       int modifiers = f.getModifiers();
       Check.holds(f.getName() + " is private", Modifier.isPrivate(modifiers));
+      Check.holds(f.getName() + " is of an allowed type", isAllowed(f.getType()));
       if (Modifier.isStatic(modifiers)) {
         boolean whole = f.getType() == int.class || f.getType() == long.class;
         Check.holds(f.getName() + " is a constant", whole && Modifier.isFinal(modifiers));
       }
     }
+  }
+
+  private static boolean isAllowed(Class<?> type) {
+    Class<?> plain = type.isArray() ? type.getComponentType() : type;
+    return plain.isPrimitive() && plain != float.class && plain != double.class;
   }
 }
